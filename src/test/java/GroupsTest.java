@@ -140,8 +140,8 @@ public final class GroupsTest {
         x.lay(0, 1, 0, -2);
         Due.due("none comes", x.read(0, 0, 50), 0);
         Due.due("no time was told then", x.told(0, 0, 8, 9), 3);
-        x.sheet(1, 0, 0);
-        Due.due("an empty sheet", x.read(1, 0, 9), 0);
+        x.sheet(3, 0, 0);
+        Due.due("an empty sheet", x.read(3, 0, 9), 0);
         for (int i = 4; i <= 97; i++) {
             x.told(0, 0, 1, 9);
         }
@@ -331,6 +331,30 @@ public final class GroupsTest {
         }
         left.set(2, 999);
         Due.due("two are left", left.leftOut(), 1 << 2 | 1 << 3);
+        WarnLines ends = new WarnLines();
+        for (int mean : new int[] {900, 100, 101, 102, 103, 100, 900}) {
+            Due.group(ends, mean - 1, mean + 1);
+        }
+        ends.set(2, 999);
+        ends.set(1, 5);
+        Due.due("all of the base are beyond: none is left out", ends.leftOut(), 0);
+        // 172 with a span of 96, and the others near 100: the third line is some 35 off the middle.
+        ends.set(2, 200);
+        ends.told(0, 0, 100, 1);
+        ends.told(0, 1, 196, 1);
+        ends.told(0, 2, 196, 1);
+        ends.told(0, 3, 196, 1);
+        Due.due("the first of the base", ends.leftOut(), 1);
+        ends.told(0, 3, -1, 2);
+        ends.told(0, 2, -1, 2);
+        ends.told(0, 1, 102, 2);
+        ends.told(6, 0, 100, 2);
+        ends.told(6, 1, 196, 2);
+        ends.told(6, 2, 196, 2);
+        ends.told(6, 3, 196, 2);
+        Due.due("behind the base", ends.leftOut(), 0);
+        ends.set(1, 6);
+        Due.due("the last of the base", ends.leftOut(), 1 << 6);
     }
 
     private static void zone() {

@@ -40,12 +40,12 @@ public final class OddsTest {
         Due.due("one below 0", x.odds(0), NOT);
         lay(x, 0, 2, 1 << 30, 1 << 30, 1 << 30, 1 << 30, 64, 0, 0, 0);
         Due.due("64 by wrapping alone", x.odds(0), NOT);
-        lay(x, 0, 2, 1, 2, 3, 4, 5, 6, 7, 36, 99, -5);
-        Due.due("the first eight items", x.odds(0), 1);
+        lay(x, 3, 2, 1, 2, 3, 4, 5, 6, 7, 36, 99, -5);
+        Due.due("the first eight items", x.odds(3), 1);
         for (int c = 0; c < 8; c++) {
             Due.due("odds of " + c, x.oddsOf(c), c < 7 ? c + 1 : 36);
         }
-        x.lose(0);
+        x.lose(3);
         Due.due("they stand without the sheet", x.oddsOf(7), 36);
     }
 
@@ -125,7 +125,9 @@ public final class OddsTest {
         Due.write(x, 0, "z5/5>0");
         soonIs(x, "five of five, up to 4", soon(x, 0, 4, 0, false), 0, 1);
         soonIs(x, "five of five, at 5", soon(x, 0, 5, 0, true), 1, 16);
-        soonIs(x, "five of five, at 6", soon(x, 0, 6, 0, true), 1, 32);
+        for (int m = 6; m <= 9; m++) {
+            soonIs(x, "five of five, at " + m, soon(x, 0, m, 0, true), 1, 32);
+        }
         // One far group and then another four behind: the first is looked at no more.
         lay(x, 0, 0, 0, 0, 0, 0, 63, 0, 0, 1);
         x.odds(0);

@@ -12,6 +12,7 @@ public final class RulesTest {
         warnsByRuns();
         warnsByTurns();
         warnsByEight();
+        warnsByTheTextAsItIs();
         blankOnesAreLeftOut();
         warned();
         warnedRefusals();
@@ -191,6 +192,23 @@ public final class RulesTest {
         Due.due("other counts beside each other", x.warns(1, 2), 0);
     }
 
+    private static void warnsByTheTextAsItIs() {
+        WarnLines x = Due.row(10, 20, 30);
+        warnsBits(x, "r2;r2;a9", 0, 0, 3, 3);
+        warnsBits(x, "z1/1>3;z3/3>3", 0, 1, 0, 1);
+        warnsBits(x, "z1/1>3", 0, 1, 0, 1);
+        warnsBits(x, "", 0, 0, 0, 0);
+        warnsBits(x, "a3;a3;r3", 0, 0, 0, 4);
+        Due.due("how many", x.warned(0, 1), 1);
+        warnsBits(x, "a3", 0, 0, 0, 0);
+        Due.due("how many", x.warned(0, 1), 0);
+        x.type(0, ';');
+        Due.due("not ended", x.warns(0, 2), NOT);
+        x.type(0, 'r');
+        x.type(0, '3');
+        Due.due("ended", x.warns(0, 2), 2);
+    }
+
     private static void blankOnesAreLeftOut() {
         WarnLines x = new WarnLines();
         Due.group(x, 10);
@@ -219,6 +237,15 @@ public final class RulesTest {
         Due.due("first by any", x.warned(0, 0), 2);
         Due.due("how many by any", x.warned(0, 1), 4);
         Due.write(x, 1, "a3");
+        Due.due("none", x.warned(1, 0), NONE);
+        Due.write(x, 1, "z1/1>3");
+        // The middle is 23/2: but for the second and third, and both like them behind, all are far off.
+        x.set(2, 999);
+        Due.due("with no span there is no step", x.warned(1, 0), 0);
+        Due.due("all are far", x.warned(1, 1), 8);
+        x.told(0, 1, 12, 0);
+        x.told(0, 2, 11, 0);
+        Due.due("one span alone makes lines", x.warned(1, 1), 0);
         Due.due("none", x.warned(1, 0), NONE);
     }
 
@@ -270,6 +297,18 @@ public final class RulesTest {
         WarnLines last = around100(100, 131);
         Due.write(last, 0, "z1/2>3");
         Due.due("as many as one", last.warned(0, 2), 1000000);
+        for (int many = 2; many <= 7; many++) {
+            WarnLines rising = new WarnLines();
+            int orders = 1;
+            for (int g = 1; g <= many; g++) {
+                Due.group(rising, g);
+                orders *= g;
+            }
+            Due.write(rising, 0, "r2");
+            Due.due("all of " + many + " but the first warn in any order", rising.warned(0, 2), 1000000);
+            Due.write(rising, 0, "r" + many);
+            Due.due("up or down, of " + orders + " orders", rising.warned(0, 2), 2000000 / orders);
+        }
         WarnLines one = Due.row(5);
         Due.write(one, 0, "r2");
         Due.due("one group alone", one.warned(0, 2), 1000000);

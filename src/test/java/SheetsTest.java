@@ -82,6 +82,9 @@ public final class SheetsTest {
         Due.due("item 2", x.lay(0, 0, 2, 0), INDEX);
         Due.due("finding", x.count(8), 2);
         Due.due("item -1", x.lay(0, 0, -1, 0), INDEX);
+        x.sheet(3, 0, 1);
+        Due.due("sheet 3", x.lay(3, 0, 0, 5), 1);
+        Due.due("item of sheet 3", x.get(3, 0, 0), 5);
         int[] values = {127, 128, 255, 256, -1, -128, -129, 32767, 32768, 65535, 65536, -32768, -32769,
             Integer.MAX_VALUE, LEAST};
         for (int v : values) {
@@ -188,8 +191,8 @@ public final class SheetsTest {
         x.lay(1, 2, 5, 99);
         Due.due("as many as there are groups", x.write(1), 5);
         itemsAre(x, 1, 2, 0, -1, 7, 4, 0, 99, 0);
-        x.sheet(2, 1, 0);
-        Due.due("no items", x.write(2), 0);
+        x.sheet(3, 1, 0);
+        Due.due("no items", x.write(3), 0);
     }
 
     private static void count() {
@@ -249,5 +252,17 @@ public final class SheetsTest {
         Due.due("it changes nothing", x.digest(), h);
         x.lose(0);
         Due.due("findings are not in it", x.digest(), h);
+        x.told(3, 0, 25, 0);
+        h = with(17, 4, 0, 4, 4, 1, 6, 4, 999);
+        h = with(h, NONE, 4);
+        h = with(h, 10, 1, 0, 1, 0);
+        h = with(h, 4, 0, NOT, 10000);
+        h = with(h, 7, 1, NOT, 13750);
+        h = with(h, 4, 0, NOT, 12812);
+        h = with(h, 7, 1, NOT, 15859);
+        h = with(h, 1, 2, 125055, 1048576, 3);
+        h = with(h, NOT, NOT, Due.LONG_NOT, Due.LONG_NOT, NOT);
+        h = with(h, 1, 1, 1, 3);
+        Due.due("digest of more", x.digest(), h);
     }
 }

@@ -197,8 +197,18 @@ public final class SumsTest {
         x.cause(2, 0);
         x.set(6, 19);
         Due.due("from far ahead: all three", x.blamed(0), 2);
+        x.cause(0, 1);
+        x.cause(0, 3);
+        Due.due("as many have kind 2", x.blamed(0), 0);
+        x.set(6, 0);
+        Due.due("two have kind 0 at their own number", x.blamed(0), 0);
         x.wipe(0);
         Due.due("none warns", x.blamed(0), NONE);
+        WarnLines first = Due.row(20, 10);
+        first.set(0, 1);
+        first.cause(4, 0);
+        Due.write(first, 0, "z1/1>0");
+        Due.due("the first group", first.blamed(0), 4);
         WarnLines gap = new WarnLines();
         Due.group(gap, 10);
         Due.group(gap);
