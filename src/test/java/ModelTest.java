@@ -4,7 +4,7 @@ import java.util.Random;
 
 /** Runs of calls drawn by a fixed seed: the class and the model must answer alike, call by call. */
 public final class ModelTest {
-    private static final int RUNS = 400, CALLS = 512;
+    private static final int RUNS = 300, CALLS = 512;
     private final Random random;
     private final WarnLines x = new WarnLines();
     private final Model model = new Model();
@@ -31,10 +31,13 @@ public final class ModelTest {
         int asked = 0;
         for (int run = 0; run < runs && wrong < 3; run++) {
             ModelTest test = new ModelTest(run);
-            for (int call = 0; call < CALLS && test.alike; call++) {
-                test.next();
-                asked++;
+            if (run % 8 != 0) {
+                test.begin();
             }
+            while (test.calls.size() < CALLS && test.alike) {
+                test.next();
+            }
+            asked += test.calls.size();
             if (!test.alike) {
                 wrong++;
                 System.out.println("run " + run + ":");
@@ -87,6 +90,28 @@ public final class ModelTest {
         return random.nextInt(25) == 0 ? near(0, 999) : Math.min(999, time + random.nextInt(8));
     }
 
+    /** Most runs begin with some groups and two texts, so that there is something to ask. */
+    private void begin() {
+        int many = 1 + random.nextInt(fewGroups);
+        int pieces = 1 + random.nextInt(Math.min(5, 80 / many));
+        for (int g = 0; g < many; g++) {
+            same("group()", x.group(), model.group());
+            groups++;
+            for (int piece = 0; piece < pieces && random.nextInt(12) > 0; piece++) {
+                tell(g, piece, aValue(), time);
+            }
+        }
+        typeText(0);
+        typeText(1);
+        same("digest()", x.digest(), model.digest());
+    }
+
+    private void tell(int g, int piece, int v, int t) {
+        int got = x.told(g, piece, v, t);
+        same("told(" + g + ", " + piece + ", " + v + ", " + t + ")", got, model.told(g, piece, v, t));
+        time = got > 0 ? t : time;
+    }
+
     private String aRule() {
         int kind = zonesAlone && random.nextInt(40) != 0 ? 0 : random.nextInt(3);
         if (kind == 0) {
@@ -102,13 +127,13 @@ public final class ModelTest {
         for (int r = 0; r < rules; r++) {
             text.append(r == 0 ? "" : ";").append(aRule());
         }
-        if (random.nextInt(8) == 0) {
+        if (random.nextInt(24) == 0) {
             text.append(";");
         }
-        if (text.length() > 0 && random.nextInt(8) == 0) {
+        if (text.length() > 0 && random.nextInt(24) == 0) {
             text.setCharAt(random.nextInt(text.length()), "zra;/>0123456789 \u00ff".charAt(random.nextInt(18)));
         }
-        if (text.length() > 0 && random.nextInt(8) == 0) {
+        if (text.length() > 0 && random.nextInt(24) == 0) {
             text.setLength(random.nextInt(text.length()));
         }
         return text.toString();
@@ -116,13 +141,13 @@ public final class ModelTest {
 
     private void next() {
         int kind = random.nextInt(100);
-        if (kind < 38) {
-            change(random.nextInt(38));
-        } else if (kind < 60) {
-            askGroups(random.nextInt(12));
-        } else if (kind < 75) {
+        if (kind < 18) {
+            change(random.nextInt(36));
+        } else if (kind < 58) {
+            askGroups(random.nextInt(14));
+        } else if (kind < 80) {
             askChances(random.nextInt(12));
-        } else if (kind < 98) {
+        } else if (kind < 97) {
             sheets(random.nextInt(20));
         } else {
             same("digest()", x.digest(), model.digest());
@@ -136,15 +161,9 @@ public final class ModelTest {
                 same("group()", got, model.group());
                 groups = Math.max(groups, got + 1);
             }
-        } else if (kind < 22) {
-            int g = aGroup();
-            int piece = near(0, random.nextInt(3) == 0 ? 0 : 4);
-            int v = aValue();
-            int t = aTime();
-            int got = x.told(g, piece, v, t);
-            same("told(" + g + ", " + piece + ", " + v + ", " + t + ")", got, model.told(g, piece, v, t));
-            time = got > 0 ? t : time;
-        } else if (kind < 25) {
+        } else if (kind < 20) {
+            tell(aGroup(), near(0, random.nextInt(3) == 0 ? 0 : 4), aValue(), aTime());
+        } else if (kind < 23) {
             int s = near(0, 3);
             int g = aGroup();
             int t = aTime();
@@ -152,30 +171,32 @@ public final class ModelTest {
             same("read(" + s + ", " + g + ", " + t + ")", got, model.read(s, g, t));
             time = got > 0 ? t : time;
         } else if (kind < 30) {
-            int what = near(0, 9);
-            int[] most = {6, 19, 400, time, 99, 200, 19, 8, 99, 99};
-            int v = random.nextInt(5) == 0 || what < 0 || what > 9 ? near(0, 999) : near(0, most[what]);
-            v = what == 3 && random.nextBoolean() ? 999 : v;
-            v = what == 4 ? Math.min(v, random.nextInt(spread + 1)) : v;
-            same("set(" + what + ", " + v + ")", x.set(what, v), model.set(what, v));
+            setOne();
         } else if (kind < 34) {
             int k = near(0, 5);
-            int number = near(0, 19);
-            if (random.nextInt(4) == 0) {
-                same("cause(" + k + ", " + number + ")", x.cause(k, number), model.cause(k, number));
-            }
+            int number = near(0, random.nextBoolean() ? 19 : Math.max(0, groups - 1));
+            same("cause(" + k + ", " + number + ")", x.cause(k, number), model.cause(k, number));
         } else {
-            typeText();
+            typeText(near(0, 1));
         }
     }
 
-    private void typeText() {
-        int text = near(0, 1);
-        if (random.nextInt(3) > 0) {
+    private void setOne() {
+        int what = near(0, 9);
+        int[] most = {random.nextInt(3) == 0 ? 6 : 0, 19, 400, time, 99, 200, 19, 8, 99, 99};
+        int v = random.nextInt(8) == 0 || what < 0 || what > 9 ? near(0, 999) : near(0, most[what]);
+        v = what == 3 && random.nextInt(4) > 0 ? 999 : v;
+        v = what == 4 ? Math.min(v, random.nextInt(spread + 1)) : v;
+        v = what == 5 ? Math.min(v, random.nextInt(3 * spread + 1)) : v;
+        same("set(" + what + ", " + v + ")", x.set(what, v), model.set(what, v));
+    }
+
+    private void typeText(int text) {
+        if (random.nextInt(12) > 0) {
             same("wipe(" + text + ")", x.wipe(text), model.wipe(text));
         }
         for (char b : aText().toCharArray()) {
-            int so = random.nextInt(200) == 0 ? near(0, 255) : b;
+            int so = random.nextInt(400) == 0 ? near(0, 255) : b;
             same("type(" + text + ", " + so + ")", x.type(text, so), model.type(text, so));
         }
         same("fault(" + text + ")", x.fault(text), model.fault(text));
@@ -198,7 +219,7 @@ public final class ModelTest {
                 int side = 2 * a - 1;
                 same("sum(" + g + ", " + side + ", " + b + ")", x.sum(g, side, b), model.sum(g, side, b));
             }
-            case 9 -> {
+            case 9, 12, 13 -> {
                 int what = near(0, 3);
                 same("over(" + what + ")", x.over(what), model.over(what));
             }
@@ -209,23 +230,23 @@ public final class ModelTest {
 
     private void askChances(int kind) {
         int text = near(0, 1);
-        int m = near(1, random.nextInt(12) == 0 ? 9 : 4);
+        int m = near(1, random.nextInt(20) == 0 ? 9 : 4);
         int d = random.nextInt(3) == 0 ? near(-7, 7) : near(-2, 2);
         boolean just = random.nextBoolean();
-        if (kind < 1) {
+        if (kind < 3) {
             int what = near(0, 1);
             same("soon(" + text + ", " + m + ", " + d + ", " + just + ", " + what + ")",
                 x.soon(text, m, d, just, what), model.soon(text, m, d, just, what));
-        } else if (kind < 2) {
+        } else if (kind < 5) {
             int what = near(0, 2);
             same("cheaper(" + m + ", " + d + ", " + what + ")", x.cheaper(m, d, what), model.cheaper(m, d, what));
-        } else if (kind < 3) {
-            int what = random.nextInt(8) == 0 ? 2 : near(0, 2);
+        } else if (kind < 8) {
+            int what = random.nextInt(4) == 0 ? 2 : near(0, 2);
             same("warned(" + text + ", " + what + ")", x.warned(text, what), model.warned(text, what));
-        } else if (kind < 5) {
+        } else if (kind < 9) {
             int c = near(0, 7);
             same("oddsOf(" + c + ")", x.oddsOf(c), model.oddsOf(c));
-        } else if (kind < 7) {
+        } else if (kind < 10) {
             layOdds();
         } else {
             int what = near(0, 8);

