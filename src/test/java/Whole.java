@@ -137,6 +137,9 @@ final class Whole {
         for (int c = 0; c < 8; c++) {
             all.add("odds " + c + " " + x.oddsOf(c));
         }
+        for (int s = 0; s < 4; s++) {
+            all.add("sheet " + s + " is there, or lost " + x.copy(s, 0, s, 0, 0));
+        }
         items(x, all);
         for (int s = 0; s < 4; s++) {
             all.add("items of sheet " + s + " " + x.lose(s));
