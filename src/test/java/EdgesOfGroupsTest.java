@@ -21,6 +21,10 @@ public final class EdgesOfGroupsTest {
         setOfWhatThereIsNot();
         setFromMoreThanTo();
         valueBounds();
+        valuesOfAllPieces();
+        valuesThatAreNotKnownYet();
+        spansInAnyOrder();
+        aGroupMoreLeavesTheOthers();
         ofBounds();
         ofABlankOne();
         baseBounds();
@@ -283,6 +287,84 @@ public final class EdgesOfGroupsTest {
         WarnLines x = Whole.make();
         Due.due("the last piece", x.value(0, 4), 30);
         Due.due("not known", x.value(2, 0), NONE);
+    }
+
+    private static int told(int group, int piece) {
+        return 40 * group + 9 * piece;
+    }
+
+    private static WarnLines allPieces() {
+        WarnLines x = new WarnLines();
+        for (int g = 0; g < 20; g++) {
+            Due.group(x, told(g, 0), told(g, 1), told(g, 2), told(g, 3), told(g, 4));
+        }
+        return x;
+    }
+
+    private static void valuesOfAllPieces() {
+        WarnLines x = allPieces();
+        for (int g = 0; g < 20; g++) {
+            for (int piece = 0; piece < 5; piece++) {
+                Due.due("piece " + piece + " of group " + g, x.value(g, piece), told(g, piece));
+            }
+            Due.due("mean of group " + g, x.of(g, 0, 0), told(g, 2));
+            Due.due("span of group " + g, x.of(g, 1, 0), 36);
+        }
+    }
+
+    /** Piece by piece at a time of its own: at each time those up to it are known, and no others. */
+    private static void valuesThatAreNotKnownYet() {
+        WarnLines x = new WarnLines();
+        for (int i = 0; i < 20; i++) {
+            x.group();
+        }
+        for (int i = 0; i < 100; i++) {
+            x.told(i % 20, i / 20, told(i % 20, i / 20), i);
+        }
+        for (int at : new int[] {99, 50, 0, 19, 20, 73, 39, 98}) {
+            x.set(3, at);
+            for (int i = 0; i < 100; i++) {
+                int value = i <= at ? told(i % 20, i / 20) : NONE;
+                Due.due("telling " + i + " as of " + at, x.value(i % 20, i / 20), value);
+            }
+            Due.due("values as of " + at, x.count(3), at + 1);
+            Due.due("blank ones as of " + at, x.count(1), Math.max(0, 19 - at));
+        }
+    }
+
+    private static void spansInAnyOrder() {
+        int[] values = {5, 7, 9, 30, 2};
+        for (int a = 0; a < 5; a++) {
+            for (int b = 0; b < 5; b++) {
+                for (int c = 0; c < 5; c++) {
+                    WarnLines x = new WarnLines();
+                    Due.group(x, values[a], values[b], values[c]);
+                    int greatest = Math.max(values[a], Math.max(values[b], values[c]));
+                    int least = Math.min(values[a], Math.min(values[b], values[c]));
+                    String three = values[a] + ", " + values[b] + ", " + values[c];
+                    Due.due("span of " + three, x.of(0, 1, 0), greatest - least);
+                    x.told(0, 3, least, 0);
+                    x.told(0, 4, greatest, 0);
+                    Due.due("span of five, " + three, x.of(0, 1, 0), greatest - least);
+                    x.told(0, 3, Math.min(least + 1, greatest), 0);
+                    Due.due("as far as before, " + three, x.of(0, 1, 0), greatest - least);
+                }
+            }
+        }
+    }
+
+    private static void aGroupMoreLeavesTheOthers() {
+        WarnLines x = new WarnLines();
+        for (int many = 1; many <= 20; many++) {
+            x.group();
+            for (int g = 0; g < many - 1; g++) {
+                Due.due("mean of " + g + " of " + many, x.of(g, 0, 0), told(g, 0) + 2 + g);
+                Due.due("span of " + g + " of " + many, x.of(g, 1, 0), 2 * g + 4);
+            }
+            Due.due("the new one is blank", x.of(many - 1, 1, 0), Due.LONG_NOT);
+            x.told(many - 1, 0, told(many - 1, 0), 0);
+            x.told(many - 1, 1, told(many - 1, 0) + 2 * many + 2, 0);
+        }
     }
 
     private static void ofBounds() {

@@ -94,6 +94,16 @@ public final class EdgesOfSheetsTest {
         for (int s = 0; s < 4; s++) {
             Due.due("lose of " + s, Whole.make().lose(s), had[s]);
         }
+        for (int s = 0; s < 4; s++) {
+            WarnLines x = new WarnLines();
+            for (int each = 0; each < 4; each++) {
+                x.sheet(each, 1, 10 + each);
+            }
+            Due.due("lose of " + s + " of four", x.lose(s), 10 + s);
+            for (int each = 0; each < 4; each++) {
+                Due.due("lose of " + each + " behind that of " + s, x.lose(each), each == s ? NULL : 10 + each);
+            }
+        }
     }
 
     private static void loseOfALostSheet() {

@@ -14,6 +14,9 @@ public final class EdgesOfSumsTest {
         overIsMoreThanTold();
         overAtTheEndsOfWhatIsTold();
         overInFractions();
+        overByTheLeastPart();
+        overOnAnySideOf0();
+        oneGroupAlone();
         beganBehindTheLast0();
         beganAtTheFirst();
         overOnEitherSide();
@@ -190,6 +193,55 @@ public final class EdgesOfSumsTest {
         overIs(x, 9, 0, 1, 0);
         overIs(x, 10, 1, 1, 0);
         overIs(x, 11, NONE, NONE, NONE);
+    }
+
+    /** Means of 504 by 5, 401 by 4 and 304 by 3: the first one is a hundred and eightieth above the middle. */
+    private static void overByTheLeastPart() {
+        WarnLines x = new WarnLines();
+        Due.group(x, 95, 106, 101, 100, 102);
+        Due.group(x, 95, 106, 100, 100);
+        Due.group(x, 95, 106, 103);
+        x.set(2, 999);
+        x.set(4, 0);
+        Due.due("none is left out", x.leftOut(), 0);
+        Due.due("up, above", x.sum(0, 1, 0), 1);
+        Due.due("up, below", x.sum(0, 1, 1), 180);
+        overIs(x, 0, 0, 1, 0);
+        // Down likewise, the other way round the middle.
+        WarnLines down = new WarnLines();
+        Due.group(down, 105, 94, 99, 100, 98);
+        Due.group(down, 105, 94, 100, 100);
+        Due.group(down, 105, 94, 97);
+        down.set(2, 999);
+        down.set(4, 0);
+        Due.due("down, above", down.sum(0, -1, 0), 1);
+        Due.due("down, below", down.sum(0, -1, 1), 180);
+        overIs(down, 0, 0, 2, 0);
+        overIs(down, 1, NONE, NONE, NONE);
+    }
+
+    private static void overOnAnySideOf0() {
+        WarnLines down = around100(1, 100, 98, 100);
+        overIs(down, 0, 1, 2, 1);
+        overIs(down, 1, NONE, NONE, NONE);
+        WarnLines up = around100(1, 100, 102, 100);
+        overIs(up, 0, 1, 1, 1);
+        overIs(up, 1, NONE, NONE, NONE);
+    }
+
+    private static void oneGroupAlone() {
+        WarnLines x = Due.row(700);
+        for (int slack = 0; slack <= 99; slack += 99) {
+            x.set(4, slack);
+            x.set(5, 0);
+            sumsAre(x, 1, 0);
+            sumsAre(x, -1, 0);
+            Due.due("it is not over", x.over(0), NONE);
+        }
+        x.group();
+        x.told(1, 0, -1, 0);
+        sumsAre(x, -1, 0);
+        Due.due("smoothed", x.smoothed(0), 700000);
     }
 
     private static void beganBehindTheLast0() {

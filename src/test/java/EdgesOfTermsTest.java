@@ -15,6 +15,7 @@ public final class EdgesOfTermsTest {
         reachIs58AtFirst();
         onALineIsNotBeyondIt();
         justBeyondALineInFractions();
+        beyondALineByTheLeastPart();
         leftOutAreAllBeyondTheThirdLine();
         twoAtLeastAreLeft();
         againAndAgain();
@@ -304,6 +305,34 @@ public final class EdgesOfTermsTest {
             Due.group(x, mean - span / 2, mean + span / 2);
         }
         return x;
+    }
+
+    /** The step is 299 by 300, one is 1 off the middle. */
+    private static void beyondALineByTheLeastPart() {
+        for (int side = -1; side <= 1; side += 2) {
+            WarnLines x = new WarnLines();
+            Due.group(x, 100, 113);
+            Due.group(x, 106 + side, 107 + side);
+            x.set(1, 0);
+            x.set(2, 23);
+            Due.due("step, above", x.base(1, 0), 299);
+            Due.due("step, below", x.base(1, 1), 300);
+            Due.due("beyond the first line", x.zone(1, 1), 1);
+            x.told(0, 1, 115, 0);
+            x.told(0, 0, 98, 0);
+            x.told(1, 0, 105 + side, 0);
+            x.told(1, 1, 108 + side, 0);
+            // 17 times 20 by 300 is 34 by 30; 15 times 20 by 300 is 1.
+            x.set(2, 20);
+            Due.due("within the first line", x.zone(1, 1), 0);
+            x.told(0, 0, 99, 0);
+            x.told(0, 1, 114, 0);
+            Due.due("on the first line", x.zone(1, 1), 0);
+            x.set(2, 10);
+            Due.due("on the second line", x.zone(1, 1), 1);
+            x.set(2, 9);
+            Due.due("beyond the second line", x.zone(1, 1), 2);
+        }
     }
 
     private static void leftOutIs(String why, WarnLines x, int reach, int bits) {

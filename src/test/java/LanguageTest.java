@@ -1,15 +1,23 @@
+import com.sun.source.tree.ArrayAccessTree;
 import com.sun.source.tree.AssertTree;
+import com.sun.source.tree.AssignmentTree;
 import com.sun.source.tree.ClassTree;
 import com.sun.source.tree.CompilationUnitTree;
+import com.sun.source.tree.CompoundAssignmentTree;
+import com.sun.source.tree.InstanceOfTree;
 import com.sun.source.tree.LambdaExpressionTree;
 import com.sun.source.tree.LiteralTree;
 import com.sun.source.tree.MemberReferenceTree;
 import com.sun.source.tree.MethodInvocationTree;
 import com.sun.source.tree.MethodTree;
+import com.sun.source.tree.NewArrayTree;
 import com.sun.source.tree.NewClassTree;
 import com.sun.source.tree.SynchronizedTree;
 import com.sun.source.tree.ThrowTree;
+import com.sun.source.tree.Tree;
 import com.sun.source.tree.TryTree;
+import com.sun.source.tree.TypeCastTree;
+import com.sun.source.tree.UnaryTree;
 import com.sun.source.tree.VariableTree;
 import com.sun.source.util.JavacTask;
 import com.sun.source.util.TreePath;
@@ -25,6 +33,9 @@ import java.util.Set;
 import javax.lang.model.element.Element;
 import javax.lang.model.element.ElementKind;
 import javax.lang.model.element.Modifier;
+import javax.lang.model.type.ArrayType;
+import javax.lang.model.type.TypeKind;
+import javax.lang.model.type.TypeMirror;
 import javax.tools.JavaCompiler;
 import javax.tools.StandardJavaFileManager;
 import javax.tools.ToolProvider;
@@ -76,6 +87,10 @@ public final class LanguageTest extends TreePathScanner<Void, Void> {
         int deepest = 0;
         if (open.add(method)) {
             for (Element called : calls.getOrDefault(method, Set.of())) {
+                boolean mayCallItself = called.getModifiers().containsAll(Set.of(Modifier.PRIVATE, Modifier.STATIC));
+                if (open.contains(called) && !mayCallItself) {
+                    Due.due(called + " calls itself", 1, 0);
+                }
                 deepest = Math.max(deepest, open.contains(called) ? 0 : depth(called, open));
             }
             open.remove(method);
@@ -91,6 +106,36 @@ public final class LanguageTest extends TreePathScanner<Void, Void> {
 
     private Element here() {
         return trees.getElement(getCurrentPath());
+    }
+
+    /** Numbers, own classes, rows of either, and rows of rows of numbers. */
+    private static boolean isAllowed(TypeMirror type) {
+        if (type.getKind() == TypeKind.ARRAY) {
+            TypeMirror item = ((ArrayType) type).getComponentType();
+            boolean isRow = item.getKind() == TypeKind.ARRAY;
+            return isRow ? ((ArrayType) item).getComponentType().getKind().isPrimitive() : isAllowed(item);
+        }
+        return type.getKind().isPrimitive() || type.toString().startsWith("WarnLines");
+    }
+
+    private static boolean isWrittenOut(Element itself, Tree begun) {
+        if (itself.asType().getKind() != TypeKind.ARRAY) {
+            return itself.asType().getKind().isPrimitive();
+        }
+        String type = itself.asType().toString();
+        return Set.of("int[]", "long[]", "char[]", "byte[]").contains(type)
+            && begun instanceof NewArrayTree && ((NewArrayTree) begun).getInitializers() != null;
+    }
+
+    /** A static row stays as it was written out. */
+    private void mayChange(Tree changed) {
+        if (changed instanceof ArrayAccessTree) {
+            Tree row = ((ArrayAccessTree) changed).getExpression();
+            Element its = trees.getElement(new TreePath(getCurrentPath(), row));
+            if (its != null && its.getModifiers().contains(Modifier.STATIC)) {
+                none("a static row that is changed");
+            }
+        }
     }
 
     private boolean isOuter(Element e) {
@@ -120,10 +165,16 @@ public final class LanguageTest extends TreePathScanner<Void, Void> {
     @Override
     public Void visitVariable(VariableTree tree, Void none) {
         Element itself = here();
+        if (!isAllowed(itself.asType())) {
+            none("something of type " + itself.asType());
+        }
         if (itself.getKind() == ElementKind.FIELD) {
             boolean isStatic = itself.getModifiers().contains(Modifier.STATIC);
             if (isStatic && !itself.getModifiers().contains(Modifier.FINAL)) {
                 none("a static field that is not final");
+            }
+            if (isStatic && !isWrittenOut(itself, tree.getInitializer())) {
+                none("a static field that is not written out");
             }
             if (isOuter(itself.getEnclosingElement()) && !itself.getModifiers().contains(Modifier.PRIVATE)
                 && !(isStatic && CONSTANTS.contains(itself.getSimpleName().toString()))) {
@@ -191,6 +242,41 @@ public final class LanguageTest extends TreePathScanner<Void, Void> {
             none("a text");
         }
         return super.visitLiteral(tree, none);
+    }
+
+    @Override
+    public Void visitAssignment(AssignmentTree tree, Void none) {
+        mayChange(tree.getVariable());
+        return super.visitAssignment(tree, none);
+    }
+
+    @Override
+    public Void visitCompoundAssignment(CompoundAssignmentTree tree, Void none) {
+        mayChange(tree.getVariable());
+        return super.visitCompoundAssignment(tree, none);
+    }
+
+    @Override
+    public Void visitUnary(UnaryTree tree, Void none) {
+        boolean changes = tree.getKind().toString().endsWith("CREMENT");
+        if (changes) {
+            mayChange(tree.getExpression());
+        }
+        return super.visitUnary(tree, none);
+    }
+
+    @Override
+    public Void visitTypeCast(TypeCastTree tree, Void none) {
+        if (!trees.getTypeMirror(new TreePath(getCurrentPath(), tree.getType())).getKind().isPrimitive()) {
+            none("a cast of objects");
+        }
+        return super.visitTypeCast(tree, none);
+    }
+
+    @Override
+    public Void visitInstanceOf(InstanceOfTree tree, Void none) {
+        none("instanceof");
+        return super.visitInstanceOf(tree, none);
     }
 
     @Override
